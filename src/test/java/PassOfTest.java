@@ -12,6 +12,7 @@ public final class PassOfTest {
     };
 
     private static final int LOW_BITS = 7;
+    private static final int SWEEP = 2000;
     // Odd, so that its multiples spread over all of int and over all low bits.
     private static final int STRIDE = 1000003;
 
@@ -126,6 +127,13 @@ public final class PassOfTest {
                 due(x | ~LOW_BITS, y | ~LOW_BITS, want);
             }
         }
+        for (int i = 0; i < SWEEP; i++) {
+            for (int j = 0; j < SWEEP; j++) {
+                int x = i * STRIDE;
+                int y = j * STRIDE;
+                due(x, y, BLOCK[y & LOW_BITS][x & LOW_BITS]);
+            }
+        }
     }
 
     /** Each of the three bits, changed alone, changes the answer where the block says so. */
@@ -147,8 +155,8 @@ public final class PassOfTest {
                 isAPass(x, y);
             }
         }
-        for (int i = 0; i < 2000; i++) {
-            for (int j = 0; j < 2000; j++) {
+        for (int i = 0; i < SWEEP; i++) {
+            for (int j = 0; j < SWEEP; j++) {
                 isAPass(i * STRIDE, j * STRIDE);
             }
         }
